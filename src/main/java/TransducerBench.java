@@ -451,6 +451,7 @@ public final class TransducerBench {
     /** A set of symbols, a bit for each: the first 64 in low, the others in high. */
     private static final class SymbolSet {
         private static final int HALF = 64;
+        private static final long HIGH_SYMBOLS = (1L << (SYMBOLS - HALF)) - 1;
 
         private long low;
         private long high;
@@ -461,7 +462,8 @@ public final class TransducerBench {
         }
 
         void fill() {
-            include(0, SYMBOLS - 1);
+            low = -1L;
+            high = HIGH_SYMBOLS;
         }
 
         void copyFrom(SymbolSet other) {
@@ -496,7 +498,7 @@ public final class TransducerBench {
             } else if (distance < 0) {
                 shiftDown(-distance);
             }
-            keep(0, SYMBOLS - 1);
+            high &= HIGH_SYMBOLS;
         }
 
         private void shiftUp(int distance) {
@@ -586,8 +588,8 @@ public final class TransducerBench {
 
         /** The bits from first to last, as far as a long has them. */
         private static long bits(int first, int last) {
-            int from = Math.max(first, 0);
-            int to = Math.min(last, HALF - 1);
+            int from = first > 0 ? first : 0;
+            int to = last < HALF ? last : HALF - 1;
             return from > to ? 0 : (-1L << from) & (-1L >>> (HALF - 1 - to));
         }
     }
@@ -598,7 +600,7 @@ public final class TransducerBench {
         private final SymbolSet guard = new SymbolSet();
         private final int[] terms = new int[TERMS];
         private int termCount;
-        /** The symbols from lowest to highest are those for which all terms have symbols as values. */
+        /** From lowest to highest are the symbols for which the values of all terms are symbols. */
         private int lowest;
         private int highest;
 
@@ -686,7 +688,7 @@ public final class TransducerBench {
             return size >= RULES;
         }
 
-        /** The new last rule, without guard and terms; of a full transducer the last one begins anew. */
+        /** The new last rule, with no guard and no terms yet; there must be room for it. */
         Rule append(int from, int to) {
             if (size < RULES) {
                 size++;
@@ -824,7 +826,7 @@ public final class TransducerBench {
         }
     }
 
-    /** The input buffer, and the reading of its text without looking ahead more than a character. */
+    /** The input buffer and the reading of its text, which never looks further than a character. */
     private static final class Reader {
         private final char[] letters = new char[LONGEST_TEXT];
         private int length;
@@ -846,7 +848,7 @@ public final class TransducerBench {
             length = 0;
         }
 
-        /** Whether the text is correct; what it says is in the target unless it has a wrong number. */
+        /** Whether the text is correct; the target holds what it says, unless a number is wrong. */
         boolean readInto(Transducer target) {
             target.clear();
             at = 0;
@@ -855,21 +857,22 @@ public final class TransducerBench {
             if (length == 0) {
                 return true;
             }
-            if (!readItem(target)) {
-                return false;
-            }
-            for (int i = 0; i < LONGEST_TEXT && at < length; i++) {
-                if (!skip(';') || !readItem(target)) {
+            for (int i = 0; i < LONGEST_TEXT; i++) {
+                boolean isItem = skip('!') ? readFinal(target) : readRule(target);
+                if (!isItem) {
+                    return false;
+                }
+                if (at >= length) {
+                    return true;
+                }
+                if (!skip(';')) {
                     return false;
                 }
             }
-            return true;
+            return false;
         }
 
-        private boolean readItem(Transducer target) {
-            if (!skip('!')) {
-                return readRule(target);
-            }
+        private boolean readFinal(Transducer target) {
             if (!readNumber()) {
                 return false;
             }
@@ -957,39 +960,22 @@ public final class TransducerBench {
         }
 
         private boolean readTerm() {
-            if (skip('x')) {
-                return readOffset();
+            int sign = 0;
+            boolean isOffset = skip('x');
+            if (!isOffset || skip('+')) {
+                sign = 1;
+            } else if (skip('-')) {
+                sign = -1;
             }
-            if (!readNumber()) {
+            if (sign != 0 && !readNumber()) {
                 return false;
             }
-            keepTerm(number);
-            return true;
-        }
-
-        private boolean readOffset() {
-            int offset = 0;
-            if (skip('+')) {
-                if (!readNumber()) {
-                    return false;
-                }
-                offset = number;
-            } else if (skip('-')) {
-                if (!readNumber()) {
-                    return false;
-                }
-                offset = -number;
-            }
-            keepTerm(OFFSET_ZERO + offset);
-            return true;
-        }
-
-        private void keepTerm(int term) {
             if (rule.termCount >= TERMS) {
                 hasWrongNumber = true;
             } else {
-                rule.append(term);
+                rule.append((isOffset ? OFFSET_ZERO : 0) + sign * number);
             }
+            return true;
         }
 
         private boolean readNumber() {
@@ -1231,7 +1217,7 @@ public final class TransducerBench {
     private static final class Domains {
         private final Steps steps = new Steps();
         private final Steps otherSteps = new Steps();
-        /** Neighbouring symbols that lead to the same states are one group, with one of them kept. */
+        /** Neighbouring symbols that lead to the same states are a group, which one stands for. */
         private final int[] groupSymbol = new int[SYMBOLS];
         private final int[] groupSize = new int[SYMBOLS];
         private int groupCount;
@@ -1242,10 +1228,10 @@ public final class TransducerBench {
         private final int[] nextSets = new int[STATE_SETS];
         private int setCount;
         private int firstSet;
-        /** For a set of states of the outer transducer, the inner one's states met together with it. */
+        /** By a set of the outer transducer's states, the inner one's states met with it. */
         private final int[] met = new int[STATE_SETS];
         private final int[] waiting = new int[STATE_SETS];
-        /** For a number of steps, the states from which a final one can be reached by so many or fewer. */
+        /** By a number of steps, the states from which so many or fewer lead to a final one. */
         private final int[] near = new int[STATES];
 
         private void findGroups(Steps one, Steps other) {
@@ -1428,8 +1414,11 @@ public final class TransducerBench {
 
         /** Whether no word has an output of one and a different output of the other. */
         boolean isAgreed(Transducer one, Transducer other) {
+            for (int pair = 0; pair < PAIRS; pair++) {
+                isFound[pair] = false;
+                isHopeful[pair] = isFinalPair(one, other, pair);
+            }
             findHopeful(one, other);
-            Arrays.fill(isFound, false);
             foundCount = 0;
             poolSize = 0;
             firstLength = 0;
@@ -1445,10 +1434,8 @@ public final class TransducerBench {
             return true;
         }
 
+        /** Final pairs are marked already; the pairs that lead to marked ones are marked too. */
         private void findHopeful(Transducer one, Transducer other) {
-            for (int pair = 0; pair < PAIRS; pair++) {
-                isHopeful[pair] = isFinalPair(one, other, pair);
-            }
             boolean isChanged = true;
             for (int round = 0; round < PAIRS && isChanged; round++) {
                 isChanged = false;
@@ -1480,21 +1467,20 @@ public final class TransducerBench {
 
         private boolean follow(Transducer one, Transducer other, int pair) {
             for (int i = 0; i < one.size; i++) {
-                Rule rule = one.list[i];
-                if (rule.from == pair / STATES) {
-                    for (int j = 0; j < other.size; j++) {
-                        Rule partner = other.list[j];
-                        if (partner.from == pair % STATES && !followRules(one, other, pair, rule, partner)) {
-                            return false;
-                        }
+                for (int j = 0; j < other.size; j++) {
+                    Rule rule = one.list[i];
+                    Rule partner = other.list[j];
+                    boolean isFromPair = rule.from * STATES + partner.from == pair;
+                    if (isFromPair && !followRules(one, other, rule, partner)) {
+                        return false;
                     }
                 }
             }
             return true;
         }
 
-        private boolean followRules(
-                Transducer one, Transducer other, int pair, Rule rule, Rule partner) {
+        private boolean followRules(Transducer one, Transducer other, Rule rule, Rule partner) {
+            int source = rule.from * STATES + partner.from;
             int goal = rule.to * STATES + partner.to;
             if (!isHopeful[goal] || !rule.isEnabledWith(partner)) {
                 return true;
@@ -1502,7 +1488,7 @@ public final class TransducerBench {
             boolean isEnd = isFinalPair(one, other, goal);
             for (int symbol = 0; symbol < SYMBOLS; symbol++) {
                 if (rule.isEnabled(symbol) && partner.isEnabled(symbol)) {
-                    loadAhead(pair);
+                    loadAhead(source);
                     appendOutputs(rule, partner, symbol);
                     if (!isFitting(goal, isEnd)) {
                         return false;
@@ -1530,7 +1516,7 @@ public final class TransducerBench {
             }
         }
 
-        /** Compares what both have put out, and what is ahead with what was ahead on an earlier way. */
+        /** Compares both outputs, and what is ahead with what was ahead on an earlier way. */
         private boolean isFitting(int goal, boolean isEnd) {
             int shared = Math.min(firstLength, secondLength);
             for (int i = 0; i < shared; i++) {
@@ -1615,8 +1601,7 @@ public final class TransducerBench {
                 addRulesFrom(n, a, b, target);
             }
             for (int n = 0; n < pairCount; n++) {
-                boolean isFinal = a.hasFinal(pairs[n] / STATES) && b.hasFinal(pairs[n] % STATES);
-                target.markFinal(n, isFinal);
+                target.markFinal(n, a.hasFinal(pairs[n] / STATES) && b.hasFinal(pairs[n] % STATES));
             }
             return isFitting;
         }
@@ -1693,7 +1678,16 @@ public final class TransducerBench {
             Rule combined = target.append(n, to);
             combined.guard.copyFrom(guards[rule.termCount]);
             for (int k = 0; k < rule.termCount; k++) {
-                appendTerms(rule.terms[k], b.list[chosen[k]], combined);
+                Rule taker = b.list[chosen[k]];
+                if (combined.termCount + taker.termCount > TERMS) {
+                    isFitting = false;
+                    return;
+                }
+                for (int i = 0; i < taker.termCount; i++) {
+                    int term = taker.terms[i];
+                    // The sum is a constant if the term of the first rule is one, else an offset.
+                    combined.append(isOffsetTerm(term) ? rule.terms[k] + term - OFFSET_ZERO : term);
+                }
             }
         }
 
@@ -1710,18 +1704,6 @@ public final class TransducerBench {
             pairs[pairCount] = pair;
             pairCount++;
             return pairCount - 1;
-        }
-
-        private void appendTerms(int term, Rule next, Rule combined) {
-            for (int i = 0; i < next.termCount; i++) {
-                if (combined.termCount >= TERMS) {
-                    isFitting = false;
-                    return;
-                }
-                int added = next.terms[i];
-                // The sum is a constant if the term is one, and an offset if the term is one.
-                combined.append(isOffsetTerm(added) ? term + added - OFFSET_ZERO : added);
-            }
         }
     }
 }
