@@ -1221,9 +1221,11 @@ public final class TransducerBench {
         private final int[] groupSymbol = new int[SYMBOLS];
         private final int[] groupSize = new int[SYMBOLS];
         private int groupCount;
+        /** How many words lead to a set; it holds only for the sets that are listed. */
         private final long[] counts = new long[STATE_SETS];
+        /** The same for words that are one longer; all 0 when none are being counted. */
         private final long[] nextCounts = new long[STATE_SETS];
-        /** The sets that have a count, or the ring of sets that wait. */
+        /** The list of sets that have a count, or the ring of sets that wait. */
         private final int[] sets = new int[STATE_SETS];
         private final int[] nextSets = new int[STATE_SETS];
         private int setCount;
@@ -1252,8 +1254,6 @@ public final class TransducerBench {
         long countWords(Transducer transducer, int length) {
             steps.load(transducer);
             findGroups(steps, steps);
-            Arrays.fill(counts, 0);
-            Arrays.fill(nextCounts, 0);
             counts[1] = 1;
             sets[0] = 1;
             setCount = 1;
@@ -1287,9 +1287,6 @@ public final class TransducerBench {
         }
 
         private void takeNext(int nextCount) {
-            for (int i = 0; i < setCount; i++) {
-                counts[sets[i]] = 0;
-            }
             for (int i = 0; i < nextCount; i++) {
                 int set = nextSets[i];
                 sets[i] = set;

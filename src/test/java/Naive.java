@@ -115,6 +115,8 @@ final class Naive {
     List<Integer> word = new ArrayList<>();
     List<Integer> result = new ArrayList<>();
 
+    private static final int MOST_AHEAD = 200;
+
     private static void argument(boolean holds) {
         if (!holds) {
             throw new IllegalArgumentException();
@@ -556,7 +558,8 @@ final class Naive {
     /**
      * Whether some word has an output of one and another output of the other. It guesses the place
      * at which both differ (or that one is longer) and only counts how far both are from it: no
-     * delays are kept, so it shares nothing with the way of the class.
+     * delays are kept, so it shares nothing with the way of the class. Where one is ahead by more than
+     * MOST_AHEAD it looks no further, which the transducers of the tests do not need.
      */
     static boolean isDifferent(Machine one, Machine other) {
         int states = 1;
@@ -565,7 +568,7 @@ final class Naive {
                 states = Math.max(states, Math.max(rule.from, rule.to) + 1);
             }
         }
-        int bound = 6 * states * states * 2 + 12;
+        int bound = Math.min(12 * states * states, MOST_AHEAD) + 12;
         Deque<int[]> queue = new ArrayDeque<>();
         Set<List<Integer>> seen = new HashSet<>();
         visit(queue, seen, bound, 0, 0, 0, 0, 0);

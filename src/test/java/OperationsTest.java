@@ -128,10 +128,11 @@ public final class OperationsTest {
         due("31: slot", ARGUMENT, () -> y.invert(-1, 0));
         due("31: an empty slot", 0, () -> y.invert(3, 0));
         due("31: empties the other", "0", () -> Check.show(y, 0));
-        TransducerBench far = Check.bench("0>0:0-99/x+99;0>0:0-99/x-99;0>0:0-99/x+36;0>0:0-99/x-64");
-        due("31: far offsets", 4, () -> far.invert(0, 0));
-        due("31: far looks", "0;0>0:99-99/901;0>0:0-0/1099;0>0:36-99/964;0>0:0-35/1064",
-                () -> Check.show(far, 0));
+        TransducerBench far = Check.bench(
+                "0>0:0-99/x+99;0>0:0-99/x-99;0>0:0-99/x+36;0>0:0-99/x-64;0>0:0-99/x+64;0>0:3-80/x+63");
+        due("31: far offsets", 6, () -> far.invert(0, 0));
+        due("31: far looks", "0;0>0:99-99/901;0>0:0-0/1099;0>0:36-99/964;0>0:0-35/1064;"
+                + "0>0:64-99/936;0>0:66-99/937", () -> Check.show(far, 0));
     }
 
     private static void restrict() {

@@ -13,6 +13,7 @@ public final class QuestionsTest {
         isDeterministic();
         isFunctional();
         longDelays();
+        coprimeCycles();
         isEquivalent();
         isWithin();
         CHECK.end();
@@ -64,6 +65,12 @@ public final class QuestionsTest {
         functional(false, "!0;!2;0>1:1/7;1>0:1/7;0>2:1/7;2>3:1/7,7;3>2:1/7");
         functional(false, "!2;0>0:1/8;0>1:1/8;1>1:1/9;1>2:2/;0>2:2/");
         functional(true, "!2;0>0:1/8;0>1:1/8;1>1:1/8;1>2:2/;0>2:2/");
+        functional(false, "!3;0>1:1-2/x;0>2:1-2/;1>3:3/;2>3:3/1");
+        functional(true, "!3;0>1:1/x;0>2:1-2/;1>3:3/;2>3:3/1");
+        TransducerBench x = Check.bench("!1;0>2:1/5;0>3:1/6;2>1:1/;3>1:1/");
+        due("27: both ways accept", false, () -> x.isFunctional(0));
+        x.removeRule(0, 3);
+        due("27: a rule that is removed is no way", true, () -> x.isFunctional(0));
         for (int slot : NO_SLOTS) {
             due("27: slot " + slot, ARGUMENT, () -> new TransducerBench().isFunctional(slot));
         }
@@ -85,6 +92,27 @@ public final class QuestionsTest {
         due("27: the slow way lacks its symbols", false, () -> x.isFunctional(0));
         due("28: such a one has no equivalent", STATE, () -> x.isEquivalent(0, 1));
         due("28: in either place", STATE, () -> x.isEquivalent(1, 0));
+    }
+
+    /** Two cycles of five and of six states, of which only the first puts anything out. */
+    private static void coprimeCycles() {
+        TransducerBench x = new TransducerBench();
+        for (int i = 0; i < 5; i++) {
+            addRow(x, i, i + 1, 6);
+        }
+        addRow(x, 5, 1, 6);
+        addRow(x, 0, 6, 0);
+        for (int i = 6; i < 11; i++) {
+            addRow(x, i, i + 1, 0);
+        }
+        x.setFinal(0, 5, true);
+        due("27: the second cycle does not accept", true, () -> x.isFunctional(0));
+        x.setFinal(0, 11, true);
+        due("27: it ends", true, () -> x.isFunctional(0));
+        addRow(x, 11, 6, 0);
+        due("27: after thirty symbols both accept", false, () -> x.isFunctional(0));
+        x.setFinal(0, 5, false);
+        due("27: the first cycle does not accept", true, () -> x.isFunctional(0));
     }
 
     private static void addRow(TransducerBench x, int from, int to, int terms) {
@@ -144,6 +172,7 @@ public final class QuestionsTest {
         within(false, "!1;0>1:5-9/", "!1;0>1:0-9/x-6");
         within(true, "!3;0>0:1-2/;0>1:1/;1>2:1-2/;2>3:1-2/", "!3;0>0:1-2/;0>1:1/;1>2:1-2/;2>3:1-2/");
         within(false, "!3;0>0:1-2/;0>1:1-2/;1>2:1-2/;2>3:1-2/", "!3;0>0:1-2/;0>1:1/;1>2:1-2/;2>3:1-2/");
+        within(false, "!2;0>0:1/;0>1:2/;1>2:3/;1>0:4/", "!2;0>0:1/;0>1:2/;1>2:3/;1>3:4/;3>3:1/;3>4:2/");
         TransducerBench x = Check.bench("!1;0>1:1/5;0>1:1/6");
         due("29: in itself, functional or not", true, () -> x.isWithin(0, 0));
         for (int slot : NO_SLOTS) {
