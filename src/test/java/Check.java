@@ -60,19 +60,28 @@ final class Check {
     static String show(TransducerBench bench, int slot) {
         StringBuilder text = new StringBuilder();
         text.append(Integer.toBinaryString(bench.finals(slot)));
-        for (int rule = 0; rule < bench.rules(slot); rule++) {
+        int rules = bench.rules(slot);
+        for (int rule = 0; rule < rules; rule++) {
             text.append(';').append(bench.rule(slot, rule, 0));
             text.append('>').append(bench.rule(slot, rule, 1)).append(':');
-            for (int i = 0; i < bench.rule(slot, rule, 5); i++) {
+            int ranges = bench.rule(slot, rule, 5);
+            for (int i = 0; i < ranges; i++) {
                 text.append(i > 0 ? "," : "").append(bench.range(slot, rule, i, false));
                 text.append('-').append(bench.range(slot, rule, i, true));
             }
             text.append('/');
-            for (int i = 0; i < bench.rule(slot, rule, 4); i++) {
+            int terms = bench.rule(slot, rule, 4);
+            for (int i = 0; i < terms; i++) {
                 text.append(i > 0 ? "," : "").append(bench.term(slot, rule, i));
             }
         }
         return text.toString();
+    }
+
+    /** The output that transduce finds, as a text with its length before it. */
+    static String output(TransducerBench bench, int slot, boolean isLast) {
+        int length = bench.transduce(slot, isLast);
+        return length + ": " + showResult(bench, length);
     }
 
     static String showResult(TransducerBench bench, int length) {
