@@ -5,7 +5,8 @@ import java.util.TreeSet;
 /**
  * The sentences under 'Description' that all promises share: numbers, symbols and words, transducers,
  * runs, tests, the word, details. Those about refused calls are in RefusedTest, those about composition
- * in CompositionTest, those about texts in GrammarTest, and the examples in ExamplesTest.
+ * in CompositionTest, those about texts in SentencesTextsTest, and the examples in
+ * ExamplesTest.
  */
 public final class DescriptionTest {
     private static final Sentences S = new Sentences();

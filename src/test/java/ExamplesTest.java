@@ -1,4 +1,4 @@
-/** The examples of the document, call by call. */
+/** The examples of the document and of README.md, call by call. */
 public final class ExamplesTest {
     private static final Check CHECK = new Check();
 
@@ -13,6 +13,7 @@ public final class ExamplesTest {
         inversion();
         determinism();
         wrongText();
+        readme();
         CHECK.end();
     }
 
@@ -79,5 +80,20 @@ public final class ExamplesTest {
         Check.feed(x, "0>1:9");
         due("wrong text: parse", -105, () -> x.parse(0));
         due("wrong text: undo", IllegalStateException.class, () -> x.undo());
+    }
+
+    private static void readme() {
+        TransducerBench x = new TransducerBench();
+        Check.feed(x, "!0;0>0:0-9/x+1");
+        due("README: parse", 1, () -> x.parse(0));
+        due("README: push", 1, () -> x.push(4));
+        due("README: transduce", 1, () -> x.transduce(0, false));
+        due("README: result", 5, () -> x.result(0));
+        due("README: compose", 1, () -> x.compose(0, 0, 1));
+        due("README: term", 1002, () -> x.term(1, 0, 0));
+        due("README: isWithin", true, () -> x.isWithin(1, 0));
+        due("README: undo", 1, () -> x.undo());
+        due("README: rules", 0, () -> x.rules(1));
+        due("README: push 100", IllegalArgumentException.class, () -> x.push(100));
     }
 }

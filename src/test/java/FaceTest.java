@@ -7,17 +7,40 @@ import java.util.TreeSet;
 /** The face of the class: what the document lists, and nothing else that others could see. */
 public final class FaceTest {
     private static final String[] FACE = {
-        "boolean setFinal(int,int,boolean)", "int addRule(int,int,int,int,int)",
-        "int addRange(int,int,int,int)", "int addTerm(int,int,boolean,int)",
-        "int removeRule(int,int)", "int rules(int)", "int finals(int)", "int rule(int,int,int)",
-        "int range(int,int,int,boolean)", "int term(int,int,int)", "int valueOf(int,int,int,int)",
-        "int feed(char)", "int parse(int)", "int push(int)", "int clearWord()", "int symbol(int)",
-        "long runs(int)", "int transduce(int,boolean)", "int result(int)", "int useResult()",
-        "long domainCount(int,int)", "double domainShare(int,int)", "int shortestInput(int)",
-        "int outputSymbols(int)", "boolean isDeterministic(int)", "boolean isFunctional(int)",
-        "boolean isEquivalent(int,int)", "boolean isWithin(int,int)", "int compose(int,int,int)",
-        "int invert(int,int)", "int restrict(int,int,int)", "int trim(int)", "int copy(int,int)",
-        "int undo()"
+        "boolean setFinal(int,int,boolean) throws IllegalArgumentException",
+        "int addRule(int,int,int,int,int) throws IllegalArgumentException,IllegalStateException",
+        "int addRange(int,int,int,int) throws IllegalArgumentException,IndexOutOfBoundsException",
+        "int addTerm(int,int,boolean,int) throws IllegalArgumentException,IndexOutOfBoundsException,IllegalStateException",
+        "int removeRule(int,int) throws IllegalArgumentException,IndexOutOfBoundsException",
+        "int rules(int) throws IllegalArgumentException",
+        "int finals(int) throws IllegalArgumentException",
+        "int rule(int,int,int) throws IllegalArgumentException,IndexOutOfBoundsException",
+        "int range(int,int,int,boolean) throws IllegalArgumentException,IndexOutOfBoundsException",
+        "int term(int,int,int) throws IllegalArgumentException,IndexOutOfBoundsException",
+        "int valueOf(int,int,int,int) throws IllegalArgumentException,IndexOutOfBoundsException",
+        "int feed(char) throws IllegalStateException",
+        "int parse(int) throws IllegalArgumentException,IllegalStateException",
+        "int push(int) throws IllegalArgumentException,IllegalStateException",
+        "int clearWord()",
+        "int symbol(int) throws IndexOutOfBoundsException",
+        "long runs(int) throws IllegalArgumentException",
+        "int transduce(int,boolean) throws IllegalArgumentException,NoSuchElementException",
+        "int result(int) throws IndexOutOfBoundsException",
+        "int useResult() throws IllegalStateException",
+        "long domainCount(int,int) throws IllegalArgumentException",
+        "double domainShare(int,int) throws IllegalArgumentException",
+        "int shortestInput(int) throws IllegalArgumentException,NoSuchElementException",
+        "int outputSymbols(int) throws IllegalArgumentException",
+        "boolean isDeterministic(int) throws IllegalArgumentException",
+        "boolean isFunctional(int) throws IllegalArgumentException",
+        "boolean isEquivalent(int,int) throws IllegalArgumentException,IllegalStateException",
+        "boolean isWithin(int,int) throws IllegalArgumentException",
+        "int compose(int,int,int) throws IllegalArgumentException,UnsupportedOperationException",
+        "int invert(int,int) throws IllegalArgumentException,IllegalStateException",
+        "int restrict(int,int,int) throws IllegalArgumentException",
+        "int trim(int) throws IllegalArgumentException",
+        "int copy(int,int) throws IllegalArgumentException",
+        "int undo() throws IllegalStateException"
     };
 
     public static void main(String[] args) {
@@ -41,7 +64,12 @@ public final class FaceTest {
                 for (int i = 0; i < method.getParameterCount(); i++) {
                     text.append(i > 0 ? "," : "").append(method.getParameterTypes()[i]);
                 }
-                found.add(text.append(')').toString());
+                text.append(')');
+                for (int i = 0; i < method.getExceptionTypes().length; i++) {
+                    text.append(i > 0 ? "," : " throws ");
+                    text.append(method.getExceptionTypes()[i].getSimpleName());
+                }
+                found.add(text.toString());
             }
         }
         return found;
